@@ -4,7 +4,7 @@ public final class ModelTest {
     private static final int MIXED_CALLS = 380;
     private static final int[] SPREADS = {0, 1, 2, 3, 7, 64, 1000, -1, Integer.MAX_VALUE, Integer.MIN_VALUE};
     private static final int[] FAR = {
-        Integer.MIN_VALUE, Integer.MIN_VALUE + 1, -1000, -4, -3, -2, 4, 5, 6, 7, 1000, 1 << 30, Integer.MAX_VALUE};
+        Integer.MIN_VALUE, Integer.MIN_VALUE + 1, -1000, -4, -3, -2, 2, 3, 4, 5, 6, 7, 1000, 1 << 30, Integer.MAX_VALUE};
 
     private final Checks checks;
     private final TransactionalMaps maps;

@@ -273,6 +273,18 @@ public final class PromisesTest {
         due("same(0, 1)", true, x.same(0, 1));
         x.put(1, 3, 6);
         due("same(0, 1)", false, x.same(0, 1));
+        fresh("8 same after removing");
+        x.put(0, 1, 10);
+        x.put(0, 2, 20);
+        x.put(1, 1, 10);
+        x.remove(0, 2);
+        due("same(0, 1)", true, x.same(0, 1));
+        fresh("8 same with 10 entries");
+        fill(0, 0, 10);
+        fill(1, 0, 10);
+        due("same(0, 1)", true, x.same(0, 1));
+        x.put(1, 9, -9);
+        due("same(0, 1)", false, x.same(0, 1));
         for (int wrong : NOT_BELOW_4) {
             due("same(" + wrong + ", 0)", false, x.same(wrong, 0));
             due("same(0, " + wrong + ")", false, x.same(0, wrong));
