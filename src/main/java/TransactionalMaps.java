@@ -95,10 +95,10 @@ public final class TransactionalMaps {
             return REFUSED;
         }
         // The result is built apart, because the variable to may be a or b, and may have to stay as it is.
-        if (kind == KIND_FIRST || kind == KIND_UNION) {
-            copyMap(a, RESULT_MAP);
-        } else {
+        if (kind == KIND_WITHOUT || kind == KIND_WITHIN) {
             chooseEntries(a, b, kind == KIND_WITHIN);
+        } else {
+            copyMap(a, RESULT_MAP);
         }
         if (kind == KIND_UNION && !addEntries(b)) {
             return FULL;
